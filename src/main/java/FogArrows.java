@@ -1039,13 +1039,24 @@ public final class FogArrows {
 
         int fewestWith(int s) {
             int best = NONE;
+            int told = allTold();
             for (int set = 1; set < 1 << VILLAGES; set++) {
                 boolean fewer = best == NONE || Integer.bitCount(set) < Integer.bitCount(best);
-                if (fewer && strawOf(set) >= s && isQuiet(set)) {
+                if (fewer && (set & ~told) == 0 && strawOf(set) >= s && isQuiet(set)) {
                     best = set;
                 }
             }
             return best;
+        }
+
+        private int allTold() {
+            int set = 0;
+            for (int v = 0; v < VILLAGES; v++) {
+                if (isTold(v)) {
+                    set |= 1 << v;
+                }
+            }
+            return set;
         }
 
         private int strawOf(int set) {
@@ -1060,7 +1071,7 @@ public final class FogArrows {
 
         private boolean isQuiet(int set) {
             for (int v = 0; v < VILLAGES; v++) {
-                if ((set >> v & 1) == 1 && (!isTold(v) || (friends[v] & set) != 0)) {
+                if ((set >> v & 1) == 1 && (friends[v] & set) != 0) {
                     return false;
                 }
             }
@@ -1086,9 +1097,9 @@ public final class FogArrows {
 
         int fewestSilent(int a, int b) {
             int best = VILLAGES;
+            int others = allTold() & ~(1 << a | 1 << b);
             for (int set = 0; set < 1 << VILLAGES; set++) {
-                boolean others = (set >> a & 1) == 0 && (set >> b & 1) == 0;
-                if (others && Integer.bitCount(set) < best && (hearing(a, set) >> b & 1) == 0) {
+                if ((set & ~others) == 0 && Integer.bitCount(set) < best && (hearing(a, set) >> b & 1) == 0) {
                     best = Integer.bitCount(set);
                 }
             }

@@ -282,6 +282,19 @@ public final class FogArrowsTest {
         z.set(2, 0, 47);
         z.hours(1);
         is("LOST by " + drawn, z.of(0, 6), 2);
+        // FIRE 1 burns by a DRAW of 0; FIRE 0 is not drawn for
+        int zero = 0;
+        for (int v = 0; v < 100000 && zero == 0; v++) {
+            zero = ((v * 1664525 + 1013904223) >>> 8) % 1000 == 0 ? v : 0;
+        }
+        for (int fire = 0; fire < 2; fire++) {
+            FogArrows f = with(40, 0, 3);
+            f.state(zero);
+            f.set(3, 0, fire);
+            f.set(2, 0, 99);
+            f.hours(1);
+            is("LOST by FIRE " + fire, f.of(0, 6), 2 * fire);
+        }
         // one that is sunk is not drawn for
         FogArrows s = with(1, 0, 3);
         s.set(3, 0, 1000);
@@ -696,6 +709,14 @@ public final class FogArrowsTest {
         is("keeps 0", x.keeps(0), NONE);
         is("keeps 10000", x.keeps(10000), NONE);
         is("keeps 9999", x.keeps(9999), NONE);
+        for (int i = 0; i < 6; i++) {
+            far.set(5, 0, 999);
+            far.set(6, 0, 999);
+            far.home(0);
+        }
+        is("keeps 1", far.keeps(1), 0);
+        is("keeps 9999", far.keeps(9999), 0);
+        is("keeps 10000", far.keeps(10000), NONE);
     }
 
     private static void turnings() {
@@ -805,6 +826,14 @@ public final class FogArrowsTest {
         is("buys 1000", x.buys(1000, 0), NONE);
         is("what 2", x.buys(1, 2), NONE);
         is("what -1", x.buys(1, -1), NONE);
+        FogArrows rich = new FogArrows();
+        tell(rich, 3, "village 0 straw 99;village 1 straw 99;village 2 straw 99;village 3 straw 99;village 4 straw 99;"
+            + "village 5 straw 99;village 6 straw 99;village 7 straw 99;village 8 straw 99;village 9 straw 99;"
+            + "village 10 straw 99;village 11 straw 99;");
+        is("buys 1", rich.buys(1, 1), 1);
+        is("buys 999", rich.buys(999, 0), 11);
+        is("buys 999", rich.buys(999, 1), 2047);
+        is("buys 1000", rich.buys(1000, 1), NONE);
         promise = 24;
         is("hears 0", x.hears(0), 7);
         is("hears 2", x.hears(2), 7);
@@ -838,6 +867,11 @@ public final class FogArrowsTest {
             is("count " + b[0] + " " + b[1], x.count(b[0], b[1]), NONE);
         }
         is("count", x.count(30, 29), 1);
+        promise = 27;
+        // 29 and 30 times 0 to 32: all alike by 30; 17 is the first by which two at most are
+        is("fits", x.fits(0), 33);
+        is("ask", x.fits(3), 17);
+        promise = 26;
         is("nothing is told", x.count(-1, 77), 0);
         promise = 27;
         is("fits", x.fits(0), 1000);
@@ -1160,7 +1194,8 @@ public final class FogArrowsTest {
         tell(x, 2, "at 0 turn 0;");
         tell(x, 3, "village 3 straw 5;");
         tell(x, 3, "village 3 straw 5");
-        x.count(7, 5);
+        x.count(-1, 0);
+        x.count(9, 5);
         x.bank(2, 1);
         x.bank(3, 90);
         x.mark(-1);
