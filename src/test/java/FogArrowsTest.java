@@ -1,64 +1,7 @@
 /** The promises one by one, with answers worked out by hand from the document. */
-public final class FogArrowsTest {
-    private static final int NONE = -1;
-    private static int wrong = 0;
-    private static int promise = 0;
-
-    private static void is(String call, int got, int want) {
-        if (got != want) {
-            wrong++;
-            System.out.println("promise " + promise + ": " + call + " answered " + got + ", due is " + want);
-        }
-    }
-
-    private static void yes(String call, boolean got) {
-        is(call, got ? 1 : 0, 1);
-    }
-
-    private static void no(String call, boolean got) {
-        is(call, got ? 1 : 0, 0);
-    }
-
-    /** Feeds a text to an empty TAPE and tells it. */
-    private static int tell(FogArrows x, int k, String text) {
-        for (int i = 0; i < text.length(); i += 20) {
-            int[] n = new int[5];
-            for (int j = 0; j < 20; j++) {
-                int c = i + j < text.length() ? text.charAt(i + j) : 0;
-                n[j / 4] |= c << 24 - 8 * (j % 4);
-            }
-            x.feed(n[0], n[1], n[2], n[3], n[4]);
-        }
-        x.end(text.length());
-        return x.text(k);
-    }
-
-    private static void refuses(FogArrows x, int k, String text, int fault, int at) {
-        is("text " + k + " of " + text, tell(x, k, text), NONE);
-        is("fault(0) of " + text, x.fault(0), fault);
-        is("fault(1) of " + text, x.fault(1), at);
-    }
-
-    private static void takes(FogArrows x, int k, String text, int lines) {
-        is("text " + k + " of " + text, tell(x, k, text), lines);
-        is("fault(0) of " + text, x.fault(0), 0);
-        is("fault(1) of " + text, x.fault(1), NONE);
-    }
-
-    private static String times(String s, int n) {
-        return s.repeat(n);
-    }
-
-    private static FogArrows with(int... boats) {
-        FogArrows x = new FogArrows();
-        for (int i = 0; i + 2 < boats.length; i += 3) {
-            x.boat(boats[i], boats[i + 1], boats[i + 2]);
-        }
-        return x;
-    }
-
+public final class FogArrowsTest extends Checks {
     private static void newObject() {
-        promise = 1;
+        about("promise 1");
         FogArrows x = new FogArrows();
         int[] due = {0, 0, 5, 3, 0, 0, 0, 0, 0, 0, 0, 0, 0, 0, 0, 0, 0};
         for (int i = 0; i < due.length; i++) {
@@ -75,7 +18,7 @@ public final class FogArrowsTest {
     }
 
     private static void state() {
-        promise = 2;
+        about("promise 2");
         FogArrows x = new FogArrows();
         is("state", x.state(-7), 0);
         is("state", x.state(Integer.MAX_VALUE), -7);
@@ -99,7 +42,7 @@ public final class FogArrowsTest {
     }
 
     private static void boat() {
-        promise = 3;
+        about("promise 3");
         FogArrows x = new FogArrows();
         int[][] bad = {{0, 0, 0}, {41, 0, 0}, {1, -1, 0}, {1, 3, 0}, {1, 0, -1}, {1, 0, 16}};
         for (int[] b : bad) {
@@ -113,7 +56,7 @@ public final class FogArrowsTest {
     }
 
     private static void set() {
-        promise = 4;
+        about("promise 4");
         FogArrows x = with(5, 0, 3);
         int[] most = {9, 9, 99, 1000, 99, 999, 999};
         for (int what = 0; what < 7; what++) {
@@ -139,16 +82,8 @@ public final class FogArrowsTest {
         no("boat 1", x.set(6, 1, 0));
     }
 
-    private static FogArrows lostOne() {
-        FogArrows x = with(1, 0, 3, 1, 0, 3);
-        x.set(0, 0, 0);
-        x.set(5, 0, 500);
-        x.hours(1);
-        return x;
-    }
-
     private static void turn() {
-        promise = 5;
+        about("promise 5");
         FogArrows x = with(1, 0, 3, 1, 0, 3);
         yes("turn", x.turn(1));
         is("TURNED", x.of(1, 5), 1);
@@ -167,7 +102,7 @@ public final class FogArrowsTest {
     }
 
     private static void home() {
-        promise = 6;
+        about("promise 6");
         FogArrows x = with(1, 0, 3);
         is("home", x.home(0), 0);
         is("line", x.book(0, 1), 2);
@@ -185,7 +120,7 @@ public final class FogArrowsTest {
     }
 
     private static void move() {
-        promise = 7;
+        about("promise 7");
         FogArrows x = with(1, 0, 3);
         yes("move", x.move(0, 15));
         is("REACH", x.of(0, 2), 15);
@@ -202,7 +137,7 @@ public final class FogArrowsTest {
     }
 
     private static void hours() {
-        promise = 8;
+        about("promise 8");
         FogArrows x = with(10, 0, 3);
         is("hours 0", x.hours(0), NONE);
         is("hours 61", x.hours(61), NONE);
@@ -358,7 +293,7 @@ public final class FogArrowsTest {
     }
 
     private static void tape() {
-        promise = 9;
+        about("promise 9");
         FogArrows x = new FogArrows();
         is("feed", x.feed(0x66616465, 0x20352020, 0x3b202020, 0x20202020, 0x20202020), 20);
         is("text", x.text(0), 1);
@@ -367,7 +302,7 @@ public final class FogArrowsTest {
         }
         is("feed above 400", x.feed(1, 2, 3, 4, 5), NONE);
         is("text", x.text(0), 0);
-        promise = 10;
+        about("promise 10");
         is("feed", x.feed(1, 2, 3, 4, 5), 20);
         no("end 21", x.end(21));
         no("end -1", x.end(-1));
@@ -389,14 +324,14 @@ public final class FogArrowsTest {
     }
 
     private static void texts() {
-        promise = 11;
+        about("promise 11");
         FogArrows x = with(10, 0, 3);
         is("text -1", tell(x, -1, "fade x"), NONE);
         is("the TAPE is empty", x.feed(0, 0, 0, 0, 0), 20);
         x.end(0);
         refuses(x, 0, "fade x;", 1, 5);
         is("text 4", tell(x, 4, "fade 1;"), NONE);
-        promise = 12;
+        about("promise 12");
         is("fault(0)", x.fault(0), 0);
         is("fault(1)", x.fault(1), NONE);
         is("fault(2)", x.fault(2), NONE);
@@ -407,7 +342,7 @@ public final class FogArrowsTest {
         currentTexts(x);
         planTexts(x);
         villageTexts(x);
-        promise = 11;
+        about("promise 11");
         takes(x, 0, "list 7;", 1);
         refuses(x, 0, "list 8; list", 1, 12);
         is("as it was", x.of(0, 9), 7);
@@ -504,7 +439,7 @@ public final class FogArrowsTest {
     }
 
     private static void of() {
-        promise = 13;
+        about("promise 13");
         FogArrows x = with(12, 1, 7);
         x.set(5, 0, 3);
         x.set(6, 0, 9);
@@ -586,7 +521,7 @@ public final class FogArrowsTest {
     }
 
     private static void river() {
-        promise = 14;
+        about("promise 14");
         FogArrows x = with(9, 0, 0, 9, 0, 15);
         is("what 2", x.river(0, 2), -100);
         is("what -1", x.river(0, -1), -100);
@@ -614,7 +549,7 @@ public final class FogArrowsTest {
     }
 
     private static void village() {
-        promise = 15;
+        about("promise 15");
         FogArrows x = new FogArrows();
         is("village", x.village(0, 0), NONE);
         tell(x, 3, "village 2 straw 7 talks 5 and 9; village 9 straw 1; village 3 straw 2 talks 2;");
@@ -630,7 +565,7 @@ public final class FogArrowsTest {
     }
 
     private static void book() {
-        promise = 16;
+        about("promise 16");
         FogArrows x = with(9, 0, 4);
         tell(x, 2, "at 1 move 0 to 9; at 1 turn 0; at 1 home 0; at 1 drums 7; at 2 move 0 to 9;");
         tell(x, 1, "hour 0 ebb 1;");
@@ -663,7 +598,7 @@ public final class FogArrowsTest {
     }
 
     private static void thoughts() {
-        promise = 17;
+        about("promise 17");
         FogArrows x = with(10, 0, 3, 1, 0, 3);
         x.set(0, 0, 0);
         x.set(3, 0, 1000);
@@ -687,7 +622,7 @@ public final class FogArrowsTest {
         is("what -1", x.goes(1, -1), NONE);
         is("nothing stays", x.look(1) + x.look(9) + x.look(7) + x.of(0, 4), 0);
         is("lines", x.look(8), 1);
-        promise = 18;
+        about("promise 18");
         is("stays 1", x.stays(1), 3);
         is("stays 0", x.stays(0), 21);
         is("stays 2", x.stays(2), NONE);
@@ -699,7 +634,7 @@ public final class FogArrowsTest {
         is("stays 99", far.stays(0), 99);
         tell(far, 0, "stick 10; list 99;");
         is("not by then", far.stays(0), NONE);
-        promise = 19;
+        about("promise 19");
         is("keeps 99", far.keeps(99), 99);
         is("keeps 100", far.keeps(100), NONE);
         is("keeps 8", x.keeps(8), 0);
@@ -720,7 +655,7 @@ public final class FogArrowsTest {
     }
 
     private static void turnings() {
-        promise = 20;
+        about("promise 20");
         FogArrows x = with(40, 0, 3);
         x.set(0, 0, 0);
         tell(x, 0, "stick 50; list 9;");
@@ -751,7 +686,7 @@ public final class FogArrowsTest {
     }
 
     private static void lies() {
-        promise = 21;
+        about("promise 21");
         FogArrows x = with(10, 0, 3, 1, 0, 8);
         x.set(0, 0, 0);
         x.set(4, 6, 20);
@@ -778,7 +713,7 @@ public final class FogArrowsTest {
     }
 
     private static void fogs() {
-        promise = 22;
+        about("promise 22");
         FogArrows x = new FogArrows();
         is("fogs 0 48", x.fogs(0, 48), 1000000);
         is("fogs 5 0", x.fogs(5, 0), 1000000);
@@ -809,7 +744,7 @@ public final class FogArrowsTest {
     }
 
     private static void villages() {
-        promise = 23;
+        about("promise 23");
         FogArrows x = new FogArrows();
         is("without villages", x.buys(1, 0), NONE);
         tell(x, 3, "village 0 straw 9 talks 1; village 1 straw 8 talks 2; village 2 straw 9; village 4 straw 5 talks 3;");
@@ -834,14 +769,14 @@ public final class FogArrowsTest {
         is("buys 999", rich.buys(999, 0), 11);
         is("buys 999", rich.buys(999, 1), 2047);
         is("buys 1000", rich.buys(1000, 1), NONE);
-        promise = 24;
+        about("promise 24");
         is("hears 0", x.hears(0), 7);
         is("hears 2", x.hears(2), 7);
         is("hears 4", x.hears(4), 16);
         is("hears 3", x.hears(3), NONE);
         is("hears -1", x.hears(-1), NONE);
         is("hears 12", x.hears(12), NONE);
-        promise = 25;
+        about("promise 25");
         is("cuts 0 2", x.cuts(0, 2), 1);
         is("cuts 0 4", x.cuts(0, 4), 0);
         is("cuts 0 1", x.cuts(0, 1), NONE);
@@ -860,20 +795,20 @@ public final class FogArrowsTest {
     }
 
     private static void counts() {
-        promise = 26;
+        about("promise 26");
         FogArrows x = new FogArrows();
         int[][] bad = {{-2, 0}, {31, 0}, {2, 2}, {30, 30}, {5, -1}, {0, -1}, {0, 1001}, {1, 1001}};
         for (int[] b : bad) {
             is("count " + b[0] + " " + b[1], x.count(b[0], b[1]), NONE);
         }
         is("count", x.count(30, 29), 1);
-        promise = 27;
+        about("promise 27");
         // 29 and 30 times 0 to 32: all alike by 30; 17 is the first by which two at most are
         is("fits", x.fits(0), 33);
         is("ask", x.fits(3), 17);
-        promise = 26;
+        about("promise 26");
         is("nothing is told", x.count(-1, 77), 0);
-        promise = 27;
+        about("promise 27");
         is("fits", x.fits(0), 1000);
         is("fits -1", x.fits(-1), NONE);
         is("fits 4", x.fits(4), NONE);
@@ -896,7 +831,7 @@ public final class FogArrowsTest {
         is("least", x.fits(1), NONE);
         is("greatest", x.fits(2), NONE);
         is("ask", x.fits(3), NONE);
-        promise = 26;
+        about("promise 26");
         is("6", x.count(1, 0), 6);
         is("7", x.count(1, 1000), 7);
         is("8", x.count(0, 1000), 8);
@@ -908,18 +843,18 @@ public final class FogArrowsTest {
         x.count(1, 1);
         x.count(2, 1);
         // 1, 3, 5, 7: two alike by 4; all apart by 5
-        promise = 27;
+        about("promise 27");
         is("ask", x.fits(3), 5);
     }
 
     private static void banks() {
-        promise = 28;
+        about("promise 28");
         FogArrows x = new FogArrows();
         no("bank -1", x.bank(-1, 0));
         no("bank 4", x.bank(4, 0));
         no("v -1", x.bank(0, -1));
         no("v 100", x.bank(0, 100));
-        promise = 29;
+        about("promise 29");
         is("rests 2", x.rests(2), NONE);
         is("rests -1", x.rests(-1), NONE);
         is("rests", x.rests(0), 0);
@@ -942,7 +877,7 @@ public final class FogArrowsTest {
     }
 
     private static void marks() {
-        promise = 30;
+        about("promise 30");
         FogArrows x = new FogArrows();
         is("mark 0", x.mark(0), NONE);
         is("mark 1000", x.mark(1000), NONE);
@@ -950,7 +885,7 @@ public final class FogArrowsTest {
         is("mark", x.mark(2), 1);
         is("mark", x.mark(2), 2);
         is("mark", x.mark(3), 3);
-        promise = 31;
+        about("promise 31");
         // 10 by 2, 2, 3 of 7: 2 6/7, 2 6/7, 4 2/7
         is("share", x.share(10, 0), 3);
         is("share", x.share(10, 1), 3);
@@ -965,7 +900,7 @@ public final class FogArrowsTest {
         is("share 9999", x.share(9999, 2), 4285);
         is("owner 3", x.share(1, 3), NONE);
         is("owner -1", x.share(1, -1), NONE);
-        promise = 30;
+        about("promise 30");
         is("mark", x.mark(1), 4);
         is("mark", x.mark(999), 5);
         is("mark", x.mark(5), 6);
@@ -977,7 +912,7 @@ public final class FogArrowsTest {
     }
 
     private static void games() {
-        promise = 32;
+        about("promise 32");
         FogArrows x = with(1, 0, 0, 1, 0, 0);
         is("game", x.game(0), NONE);
         x.set(5, 1, 7);
@@ -1006,7 +941,7 @@ public final class FogArrowsTest {
     }
 
     private static void crowds() {
-        promise = 33;
+        about("promise 33");
         FogArrows x = new FogArrows();
         is("none afloat", x.crowd(0), NONE);
         is("none afloat", x.crowd(1), 0);
@@ -1024,7 +959,7 @@ public final class FogArrowsTest {
         is("lost", y.look(7), 2);
         is("crowd", y.crowd(0), 8);
         is("archers", y.crowd(2), 13);
-        promise = 34;
+        about("promise 34");
         is("none afloat", x.heavy(0), -1000);
         is("none afloat", x.heavy(1), -1000);
         FogArrows z = with(5, 0, 0, 4, 0, 0, 9, 0, 0, 4, 0, 0);
@@ -1044,7 +979,7 @@ public final class FogArrowsTest {
     }
 
     private static void undo() {
-        promise = 35;
+        about("promise 35");
         FogArrows x = with(10, 0, 3);
         x.set(0, 0, 0);
         no("undo", x.undo());
@@ -1127,7 +1062,7 @@ public final class FogArrowsTest {
     }
 
     private static void image() {
-        promise = 36;
+        about("promise 36");
         FogArrows x = with(10, 1, 3);
         x.turn(0);
         no("none yet", x.image(false));
@@ -1203,7 +1138,7 @@ public final class FogArrowsTest {
     }
 
     private static void looks() {
-        promise = 37;
+        about("promise 37");
         FogArrows x = with(10, 0, 3, 1, 0, 4);
         x.set(0, 0, 8);
         x.set(1, 0, 7);
@@ -1263,9 +1198,6 @@ public final class FogArrowsTest {
         undo();
         image();
         looks();
-        System.out.println(wrong == 0 ? "promises: all answers are as due" : "promises: " + wrong + " answers are wrong");
-        if (wrong != 0) {
-            System.exit(1);
-        }
+        end("promises");
     }
 }
