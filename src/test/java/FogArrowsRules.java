@@ -142,10 +142,76 @@ public final class FogArrowsRules {
         }
     }
 
+    private static final int[] FAR_AND_NEAR = {Integer.MIN_VALUE, Integer.MIN_VALUE + 1, -65536, -2, -1, 0, 1, 2, 3, 9, 10, 16,
+        24, 99, 1000, 10000, 65536, Integer.MAX_VALUE - 1, Integer.MAX_VALUE};
+
+    /** A new river, one with ten BOATS and all TEXTS, one at the last HOUR whose BOATS are LOST, one with a full TAPE. */
+    private static FogArrows river(int which) {
+        FogArrows x = new FogArrows();
+        if (which == 0) {
+            return x;
+        }
+        for (int b = 0; b < 10; b++) {
+            x.boat(40 - b, b % 3, b);
+        }
+        String[] texts = {"shot 9999*9999*22/9999 when not(fog<9);shot 0-1;fade lean;", "hour 1 ebb 5;hour 23 drift 5;",
+            "at 0 move 9 to 15;at 1 drums 9;at 9 turn 0;at 9 home 3;", "village 0 straw 1 talks 11;village 11 straw 99;"};
+        for (int k = 0; k < 4; k++) {
+            Checks.tell(x, k, texts[k]);
+        }
+        x.image(true);
+        for (int i = 0; i < 10 && which == 2; i++) {
+            x.set(5, i, 999);
+        }
+        for (int i = 0; i < 167 && which == 2; i++) {
+            x.hours(i == 166 ? 39 : 60);
+        }
+        for (int i = 0; i < 20 && which == 3; i++) {
+            x.feed(0x7f80ff00, -1, 0x28282828, 0x39393939, i);
+        }
+        return x;
+    }
+
+    private static void anyArguments() throws Exception {
+        for (Method m : FogArrows.class.getDeclaredMethods()) {
+            if (!Modifier.isPublic(m.getModifiers())) {
+                continue;
+            }
+            int free = Math.min(3, m.getParameterCount());
+            int rows = (int) Math.pow(FAR_AND_NEAR.length, free);
+            for (int which = 0; which < 4; which++) {
+                FogArrows x = river(which);
+                for (int i = 0; i < rows; i++) {
+                    // an object is used for at most 512 calls
+                    if (i % 250 == 249) {
+                        x = river(which);
+                    }
+                    answers(m, x, i);
+                }
+            }
+        }
+    }
+
+    private static void answers(Method m, FogArrows x, int row) {
+        Object[] args = new Object[m.getParameterCount()];
+        int rest = row;
+        for (int i = 0; i < args.length; i++) {
+            args[i] = m.getParameterTypes()[i] == boolean.class ? (Object) (rest % 2 == 0)
+                : (Object) FAR_AND_NEAR[rest % FAR_AND_NEAR.length];
+            rest /= FAR_AND_NEAR.length;
+        }
+        try {
+            m.invoke(x, args);
+        } catch (ReflectiveOperationException e) {
+            must(false, "7: " + m.getName() + Arrays.toString(args) + " throws " + e.getCause());
+        }
+    }
+
     public static void main(String[] args) throws Exception {
         face();
         words();
         room();
+        anyArguments();
         System.out.println(wrong == 0 ? "rules: kept" : "rules: " + wrong + " broken");
         if (wrong != 0) {
             System.exit(1);

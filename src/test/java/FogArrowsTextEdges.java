@@ -268,11 +268,23 @@ public final class FogArrowsTextEdges extends Checks {
         FogArrows y = new FogArrows();
         refuses(y, 0, WHEN + times("(", 7) + "1<2 and not(1<2", 3, w + 7 + 11);
         refuses(y, 0, WHEN + "(1<2 and not(1<2 or" + times("(", 6) + "1<2", 3, w + 24);
+        refuses(y, 0, WHEN + "1<2 or 1<2 and 1<2 or " + times("(", 9) + "1<2", 3, w + 30);
+        refuses(y, 0, WHEN + "(1<2 and 1<2)or not 1<2 or " + times("not ", 9) + "1<2", 3, w + 59);
         takes(y, 0, WHEN + "(1<2 and not(1<2 or" + times("(", 5) + "1<2" + times(")", 7) + ";", 1);
         about("2: each line begins with none open");
         takes(y, 0, WHEN + times("(", 8) + "1<2" + times(")", 8) + ";" + WHEN + times("(", 8) + "1<2" + times(")", 8) + ";", 2);
         refuses(y, 0, WHEN + times("(", 5), 1, w + 5);
         takes(y, 0, WHEN + times("(", 8) + "1<2" + times(")", 8) + ";", 1);
+        about("Promise 11: of a refused text nothing is left");
+        for (String bad : new String[] {"not ", "1=1 or ", "1=2 and ", "not(", "(not 1=1 and "}) {
+            FogArrows z = with(7, 0, 0);
+            for (int i = 0; i < 9; i++) {
+                refuses(z, 0, WHEN + bad, 1, w + bad.length());
+            }
+            when(z, "1=1", true);
+            when(z, "1=2", false);
+            when(z, "not(1=2 and not 1=1)", true);
+        }
         about("2: at one place the least: what can't stand there ahead of the 9th");
         refuses(y, 0, WHEN + times("(", 8) + "1 (", 1, w + 10);
         refuses(y, 0, WHEN + times("(", 8) + "1 not", 1, w + 10);

@@ -39,6 +39,9 @@ public final class FogArrowsThoughtEdges extends Checks {
         FogArrows lost = lostOne();
         row("behind 1", new int[] {lost.goes(1, 0), lost.goes(1, 1)}, 8, 1);
         row("behind 2", new int[] {lost.goes(2, 0), lost.goes(2, 1)}, 0, 2);
+        about("4: ARROWS told of a LOST BOAT are not on one that is not LOST");
+        lost.set(5, 0, 50);
+        row("behind 1", new int[] {lost.goes(1, 0), lost.keeps(8), lost.keeps(9)}, 8, 1, NONE);
         about("4: ALARM");
         FogArrows z = new FogArrows();
         z.set(2, 0, 7);
@@ -186,6 +189,10 @@ public final class FogArrowsThoughtEdges extends Checks {
         row("to and fro", new int[] {fro.turnings(0, 1, 1), fro.turnings(0, 2, 1), fro.turnings(0, 3, 1),
             fro.turnings(0, 4, 1), fro.turnings(0, 10, 1)}, 0, 2, 2, 10, 682);
         is("all of them", fro.turnings(0, 10, 0), 10);
+        // above 2 it is sunk: turned at the second (2) or at the third (4), not at the first (1), not by none
+        FogArrows two = lawful(ONE + "list 2;", 10, 0, 3);
+        row("3 HOURS", new int[] {two.turnings(0, 3, 0), two.turnings(0, 3, 1)}, 3, 2);
+        row("5 HOURS: by 2, 3 three on one side", new int[] {two.turnings(0, 5, 0), two.turnings(0, 5, 1)}, 5, 4);
         about("4: most arrows, of those by which it is not LOST");
         // as many come as lean tells: the more on one side the more; above 20 it is sunk
         FogArrows most = lawful("shot lean+1;stick 100;list 20;", 10, 0, 3);
@@ -232,6 +239,15 @@ public final class FogArrowsThoughtEdges extends Checks {
         is("the most", archers(50, 49, 49).lies(1), 4);
         is("sunk", archers(51, 49, 49).lies(1), 9);
         is("none anywhere", archers(0, 0, 0).lies(1), 0);
+        FogArrows first = archers(0, 5, 51);
+        for (int r = 0; r < 9; r++) {
+            first.set(4, r, 90);
+        }
+        is("sunk at 0 .. 8, and at 15", first.lies(1), 9);
+        first.set(4, 9, 51);
+        is("at 10 none come", first.lies(1), 10);
+        first.set(4, 14, 1);
+        is("at 14 one", first.lies(1), 14);
         FogArrows all = archers(99, 5, 5);
         all.set(5, 0, 999);
         is("LOST wherever it lies", all.lies(1), 0);

@@ -80,21 +80,26 @@ public final class FogArrowsUndoEdges extends Checks {
 
     private static void goesBack() {
         about("4: the latest HOUR, turning, going home, moving goes back (STATE, THE BOOK, too)");
-        FogArrows x = busy();
-        int[][] were = new int[7][];
-        for (int i = 0; i < 6; i++) {
-            were[i] = seenButKept(x);
+        for (int n = 0; n < 6; n++) {
+            FogArrows x = busy();
+            if (n > 0) {
+                x.hours(n);
+            }
+            int[] before = seenButKept(x);
             x.hours(1);
-        }
-        were[6] = seenButKept(x);
-        for (int i = 5; i >= 0; i--) {
+            int[] after = seenButKept(x);
             yes("undo", x.undo());
-            row("as at " + i, seenButKept(x), were[i]);
-        }
-        for (int i = 1; i < 7; i++) {
+            row("as at " + n, seenButKept(x), before);
             x.hours(1);
-            row("again " + i, seenButKept(x), were[i]);
+            row("again " + n, seenButKept(x), after);
         }
+        FogArrows x = busy();
+        int[] first = seenButKept(x);
+        x.hours(6);
+        for (int i = 0; i < 6; i++) {
+            yes("undo", x.undo());
+        }
+        row("as at first", seenButKept(x), first);
         FogArrows y = busy();
         y.set(5, 1, 77);
         y.hours(1);
@@ -282,6 +287,20 @@ public final class FogArrowsUndoEdges extends Checks {
             z.turn(0);
             z.boat(1, 1, 1);
         }
+        about("4: THE BOOK as it was when THE IMAGE was taken");
+        FogArrows w = with(9, 0, 3);
+        w.move(0, 4);
+        w.move(0, 5);
+        w.image(true);
+        w.undo();
+        w.undo();
+        w.turn(0);
+        w.home(0);
+        w.move(0, 9);
+        w.image(false);
+        is("lines", w.look(8), 2);
+        row("the first", line(w, 0), 0, 5, 0, 4);
+        row("the second", line(w, 1), 0, 5, 0, 5);
         about("4: what was undone ahead of the taking, behind it");
         FogArrows u = with(9, 0, 3);
         u.move(0, 4);
