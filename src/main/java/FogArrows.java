@@ -669,7 +669,7 @@ public final class FogArrows {
         }
 
         int lean(int b) {
-            return Math.abs(left[b] - right[b]);
+            return left[b] > right[b] ? left[b] - right[b] : right[b] - left[b];
         }
 
         int stickIn(int b, int come) {
@@ -1493,8 +1493,8 @@ public final class FogArrows {
         private void cut() {
             many = 0;
             at = 0;
-            int end;
-            for (int i = 0; i < length; i = end) {
+            int end = 0;
+            for (int i = 0; i < length; i = Math.max(i + 1, end)) {
                 int c = tape[i];
                 end = i + 1;
                 if (isLetter(c)) {

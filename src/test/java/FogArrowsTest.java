@@ -1170,6 +1170,25 @@ public final class FogArrowsTest extends Checks {
         is("HOUR", y.look(1), 1);
     }
 
+    private static void readme() {
+        about("README.md");
+        FogArrows x = new FogArrows();
+        is("boat", x.boat(30, 0, 4), 0);
+        yes("set", x.set(0, 0, 2));
+        is("feed", x.feed(0x66616465, 0x20333b20, 0x20202020, 0x20202020, 0x20202020), 20);
+        yes("end", x.end(7));
+        is("text", x.text(0), 1);
+        is("hours", x.hours(3), 10);
+        is("goes", x.goes(5, 0), 20);
+        is("home", x.home(0), 10);
+        yes("undo", x.undo());
+        is("store", x.look(6), 0);
+        takes(x, 0, "shot archers - 2*fog when drums < 3 or not (fog > 4 and hour = 0);", 1);
+        takes(x, 1, "hour 18 ebb 2;", 1);
+        takes(x, 2, "at 6 move 0 to 9;", 1);
+        takes(x, 3, "village 0 straw 20 talks 1 and 4;", 1);
+    }
+
     public static void main(String[] args) {
         newObject();
         state();
@@ -1198,6 +1217,7 @@ public final class FogArrowsTest extends Checks {
         undo();
         image();
         looks();
+        readme();
         end("promises");
     }
 }
